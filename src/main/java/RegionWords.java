@@ -131,7 +131,7 @@ public final class RegionWords {
         if (cell < 0) {
             return false;
         }
-        now.become(now.region ^ 1L << cell);
+        now.become(now.region ^ (1L << cell));
         return true;
     }
 
@@ -364,8 +364,8 @@ public final class RegionWords {
     public long fits() {
         long fitting = 0L;
         for (int i = 0; i < Ground.CELLS; i++) {
-            if (isAsSeen(now.region ^ 1L << i)) {
-                fitting = fitting | 1L << i;
+            if (isAsSeen(now.region ^ (1L << i))) {
+                fitting = fitting | (1L << i);
             }
         }
         return fitting;
@@ -467,9 +467,9 @@ public final class RegionWords {
     private static long happened(long region, int what, int n) {
         switch (what) {
             case 0:
-                return region ^ 1L << n;
+                return region ^ (1L << n);
             case 1:
-                return region | Ground.FIRST_ROW << n * Ground.SIDE;
+                return region | (Ground.FIRST_ROW << (n * Ground.SIDE));
             case 2:
                 return region & ~(Ground.FIRST_COLUMN << n);
             default:
@@ -630,7 +630,7 @@ public final class RegionWords {
         static final int SIDE = 6, CELLS = 36, LINE = 7, VERTICES = 49;
         static final long FIRST_ROW = 0x3FL, FIRST_COLUMN = 0x041041041L, BLACK_CELLS = 0xA95A95A95L;
         private static final long NOT_LAST_COLUMN = 0x7DF7DF7DFL;
-        private static final long NOT_LEFT_OF_FRAME = 0xFEFEFEFEFEFEFEFEL, NOT_RIGHT_OF_FRAME = 0x7F7F7F7F7F7F7F7FL;
+        private static final long NOT_FIRST_OF_FRAME = 0xFEFEFEFEFEFEFEFEL, NOT_LAST_OF_FRAME = 0x7F7F7F7F7F7F7F7FL;
 
         static boolean isCell(int cell) {
             return cell >= 0 && cell < CELLS;
@@ -653,7 +653,7 @@ public final class RegionWords {
         }
 
         static boolean holds(long region, int cell) {
-            return isCell(cell) && (region >>> cell & 1L) != 0L;
+            return isCell(cell) && ((region >>> cell) & 1L) != 0L;
         }
 
         static long with(long region, long some, boolean in) {
@@ -668,7 +668,7 @@ public final class RegionWords {
             }
             for (int row = from / SIDE; row <= to / SIDE && row < SIDE; row++) {
                 for (int column = from % SIDE; column <= to % SIDE && column < SIDE; column++) {
-                    all = all | 1L << row * SIDE + column;
+                    all = all | (1L << (row * SIDE + column));
                 }
             }
             return all;
@@ -678,7 +678,7 @@ public final class RegionWords {
             long all = 0L;
             for (int i = 0; i < CELLS; i++) {
                 if (holds(region, i)) {
-                    all = all | 1L << i - i % SIDE + SIDE - 1 - i % SIDE;
+                    all = all | (1L << (i / SIDE * SIDE + SIDE - 1 - i % SIDE));
                 }
             }
             return all;
@@ -692,15 +692,16 @@ public final class RegionWords {
             if (what == 1) {
                 return Long.bitCount(region & BLACK_CELLS);
             }
-            int beside = Long.bitCount(region & region >>> 1 & NOT_LAST_COLUMN);
-            int below = Long.bitCount(region & region >>> SIDE);
+            int beside = Long.bitCount(region & (region >>> 1) & NOT_LAST_COLUMN);
+            int below = Long.bitCount(region & (region >>> SIDE));
             return 4 * Long.bitCount(region) - 2 * (beside + below);
         }
 
         static boolean isSimple(long region) {
             long framed = 0L;
             for (int row = 0; row < SIDE; row++) {
-                framed = framed | (region >>> row * SIDE & FIRST_ROW) << (row + 1) * 8 + 1;
+                long line = (region >>> (row * SIDE)) & FIRST_ROW;
+                framed = framed | (line << ((row + 1) * 8 + 1));
             }
             return framed != 0L && hangsTogether(framed) && hangsTogether(~framed);
         }
@@ -709,8 +710,8 @@ public final class RegionWords {
         private static boolean hangsTogether(long framed) {
             long reached = framed & -framed;
             for (int i = 0; i < 64; i++) {
-                long beside = reached << 1 & NOT_LEFT_OF_FRAME | reached >>> 1 & NOT_RIGHT_OF_FRAME;
-                reached = (reached | beside | reached << 8 | reached >>> 8) & framed;
+                long beside = ((reached << 1) & NOT_FIRST_OF_FRAME) | ((reached >>> 1) & NOT_LAST_OF_FRAME);
+                reached = (reached | beside | (reached << 8) | (reached >>> 8)) & framed;
             }
             return reached == framed;
         }
@@ -858,7 +859,7 @@ public final class RegionWords {
         int start = 0;
         int length = 0;
         private final int[] ways = new int[MOST];
-        private final int[] left = new int[MOST];
+        private final int[] rest = new int[MOST];
 
         void restart(int vertex) {
             start = vertex;
@@ -895,10 +896,10 @@ public final class RegionWords {
         int shortened() {
             int many = 0;
             for (int i = 0; i < length && i < MOST; i++) {
-                if (many > 0 && isBack(left[many - 1], ways[i])) {
+                if (many > 0 && isBack(rest[many - 1], ways[i])) {
                     many--;
                 } else {
-                    left[many] = ways[i];
+                    rest[many] = ways[i];
                     many++;
                 }
             }
@@ -1141,11 +1142,11 @@ public final class RegionWords {
         }
 
         boolean isOnWord(int vertex) {
-            return Ground.isVertex(vertex) && (onWord >>> vertex & 1L) != 0L;
+            return Ground.isVertex(vertex) && ((onWord >>> vertex) & 1L) != 0L;
         }
 
         boolean isCorner(int vertex) {
-            return Ground.isVertex(vertex) && (corners >>> vertex & 1L) != 0L;
+            return Ground.isVertex(vertex) && ((corners >>> vertex) & 1L) != 0L;
         }
 
         /** Of a VERTEX: 0 HEIGHT on WORD, 1 LOW, 2 HIGH, 3 what raise() found. */
@@ -1190,18 +1191,18 @@ public final class RegionWords {
                     boolean left = Ground.holds(region, Ground.leftOf(i, way));
                     boolean right = Ground.holds(region, Ground.rightOf(i, way));
                     if (left || right) {
-                        corners = corners | 1L << i;
-                        steps[i] = steps[i] | 1 << (Ground.rise(i, way) > 0 ? way : way + BACK);
+                        corners = corners | (1L << i);
+                        steps[i] = steps[i] | (1 << (Ground.rise(i, way) > 0 ? way : way + BACK));
                     }
                     if (right && !left) {
-                        steps[i] = steps[i] | 1 << way + EDGE;
+                        steps[i] = steps[i] | (1 << (way + EDGE));
                     }
                 }
             }
         }
 
         private static boolean isAmong(int some, int way, int sort) {
-            return (some >>> way + sort & 1) != 0;
+            return ((some >>> (way + sort)) & 1) != 0;
         }
 
         /** The edge of a SIMPLE region meets no VERTEX twice: just one way goes on. */
@@ -1216,7 +1217,7 @@ public final class RegionWords {
                 wordVertices[i] = vertex;
                 wordHeights[vertex] = total;
                 ways[i] = way;
-                onWord = onWord | 1L << vertex;
+                onWord = onWord | (1L << vertex);
                 length = i + 1;
                 total = total + Ground.rise(vertex, way);
                 vertex = vertex + Ground.stride(way);
@@ -1290,7 +1291,7 @@ public final class RegionWords {
             long settled = onWord;
             for (int round = 0; round < Ground.VERTICES && settled != corners; round++) {
                 for (int i = 0; i < Ground.VERTICES; i++) {
-                    if ((settled >>> i & 1L) != 0L) {
+                    if (((settled >>> i) & 1L) != 0L) {
                         settled = settled | raiseBehind(i, settled, state);
                     }
                 }
@@ -1306,10 +1307,10 @@ public final class RegionWords {
             for (int way = 0; way < 4; way++) {
                 int next = vertex + Ground.stride(way);
                 boolean up = isAmong(steps[vertex], way, 0) && Ground.isVertex(next);
-                if (up && (settled >>> next & 1L) == 0L) {
+                if (up && ((settled >>> next) & 1L) == 0L) {
                     boolean two = state.areTwo(Ground.leftOf(vertex, way), Ground.rightOf(vertex, way));
                     raised[next] = raised[vertex] + (two ? -3 : 1);
-                    more = more | 1L << next;
+                    more = more | (1L << next);
                 }
             }
             return more;
@@ -1319,7 +1320,7 @@ public final class RegionWords {
     /** COVERINGS, one behind the other. */
     private static final class Stones {
         static final int TWOS = 0, BARS = 1, ELLS = 2;
-        private static final int MOST_STONES = 18, MOST_TRIES = 1000000000;
+        private static final int MOST_STONES = 18, MOST_TRIES = 1000000;
         /** Of each KIND and FORM the CELLS as bits, the least CELL being 0. */
         private static final long[] SHAPES = {3L, 65L, 7L, 4161L, 67L, 131L, 193L, 97L};
         /** How many columns there must be right and left of the least CELL. */
@@ -1454,7 +1455,7 @@ public final class RegionWords {
                 rest = rest * 2.0f;
                 exponent--;
             }
-            return exponent << 23 | (int) ((rest - 1.0f) * 8388608.0f);
+            return (exponent << 23) | (int) ((rest - 1.0f) * 8388608.0f);
         }
 
         /** Of a double that is 0, or not so small that its bits have another form. */
@@ -1473,7 +1474,7 @@ public final class RegionWords {
                 rest = rest * 2.0;
                 exponent--;
             }
-            return sign | exponent << 52 | (long) ((rest - 1.0) * 4503599627370496.0);
+            return sign | (exponent << 52) | (long) ((rest - 1.0) * 4503599627370496.0);
         }
     }
 
