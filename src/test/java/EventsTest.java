@@ -111,6 +111,8 @@ public final class EventsTest {
     private static void looked() {
         RegionWords x = Check.with(3);
         C.due("29 no rows", x.looked(), -5);
+        x.cell(0, 1);
+        C.due("29 still no rows", x.looked(), -5);
         x.book(3, 1);
         x.book(4, 0);
         x.book(35, 0);
@@ -180,6 +182,7 @@ public final class EventsTest {
         x.feed(';');
         x.item(0, 0, 9);
         C.due("32 undo", x.undo(), 4);
+        C.due("32 heights", x.height(8, 3), 1002);
         C.due("32 region", x.told(0), 4);
         C.due("32 tiling", x.told(7), 1);
         C.due("32 twos", x.of(0, 2), 1);

@@ -320,6 +320,7 @@ public final class RegionTest {
         C.due("9 g", Check.read(x, "g"), 1);
         C.due("9 g laid", x.told(7), 1);
         C.due("9 t", Check.read(x, "t11"), 1);
+        C.due("9 t height", x.height(8, 3), 998);
         C.due("9 t turned", x.told(7), 0);
         C.due("9 t refused", Check.read(x, "t00;t12;t66;t77;t99;t07"), 0);
         C.due("9 f of no change: it stays", Check.read(x, "f0011;e5555"), 2);

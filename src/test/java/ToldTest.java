@@ -171,6 +171,7 @@ public final class ToldTest {
         C.due("15 last", Check.with(35).centre(1), Float.floatToIntBits(5.5f));
         C.due("15 rows", Check.with(0, 1, 6).centre(0), Float.floatToIntBits(2.5f / 3.0f));
         C.due("15 columns", Check.with(0, 1, 2, 5, 13, 30, 31).centre(1), Float.floatToIntBits(13.5f / 7.0f));
+        C.due("15 just two", Check.with(1, 2).centre(1), 0x40000000);
         C.due("15 one", Check.with(0, 1).centre(1), 0x3F800000);
     }
 
