@@ -745,12 +745,11 @@ public final class RegionWords {
             return cellAt(vertex / LINE - up, vertex % LINE - left);
         }
 
-        /** HEIGHT of a STEP; what lies beyond the ground has a colour, too. */
+        /** HEIGHT of a STEP: at a VERTEX the colours go by turns, beyond the ground, too, so columns and rows differ. */
         static int rise(int vertex, int way) {
-            int up = way == 0 || way == 3 ? 1 : 0;
-            int left = way == 2 || way == 3 ? 1 : 0;
-            int sum = vertex / LINE - up + vertex % LINE - left;
-            return (sum & 1) == 0 ? 1 : -1;
+            boolean even = ((vertex / LINE + vertex % LINE) & 1) == 0;
+            boolean upright = way == 1 || way == 3;
+            return even == upright ? 1 : -1;
         }
     }
 
