@@ -895,9 +895,9 @@ public final class RegionWords {
         int shortened() {
             int many = 0;
             for (int i = 0; i < length && i < MOST; i++) {
-                if (many > 0 && isBack(rest[many - 1], ways[i])) {
+                if (many > 0 && many <= MOST && isBack(rest[many - 1], ways[i])) {
                     many--;
-                } else {
+                } else if (many < MOST) {
                     rest[many] = ways[i];
                     many++;
                 }
@@ -1098,6 +1098,8 @@ public final class RegionWords {
     /** WORD, HEIGHTS, LOW and HIGH of a region; kept till another region is looked at. */
     private static final class Outline {
         private static final int BACK = 4, EDGE = 8;
+        /** Beyond any HEIGHT: on WORD, and FAR, there are fewer than 50 STEPS. */
+        private static final int BEYOND = 1000;
         private boolean known = false;
         private long region = 0L;
         boolean simple = false;
@@ -1225,7 +1227,7 @@ public final class RegionWords {
 
         /** HIGH of all VERTICES; whether of no two on WORD HEIGHT differs by more than FAR. */
         private boolean findHighs() {
-            Arrays.fill(highs, Integer.MAX_VALUE);
+            Arrays.fill(highs, BEYOND);
             for (int i = 0; i < length && i < Ground.VERTICES; i++) {
                 int base = level(wordVertices[i], 0);
                 spread(wordVertices[i], 0);
@@ -1242,7 +1244,7 @@ public final class RegionWords {
         }
 
         private void findLows() {
-            Arrays.fill(lows, Integer.MIN_VALUE);
+            Arrays.fill(lows, -BEYOND);
             for (int i = 0; i < length && i < Ground.VERTICES; i++) {
                 int base = level(wordVertices[i], 0);
                 spread(wordVertices[i], BACK);
@@ -1462,7 +1464,7 @@ public final class RegionWords {
             if (number == 0.0) {
                 return 0L;
             }
-            long sign = number < 0.0 ? Long.MIN_VALUE : 0L;
+            long sign = number < 0.0 ? 1L << 63 : 0L;
             double rest = number < 0.0 ? -number : number;
             long exponent = 1023L;
             for (int i = 0; i < 1024 && rest >= 2.0; i++) {

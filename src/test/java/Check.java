@@ -17,6 +17,23 @@ final class Check {
         System.out.println(name + ": " + call + " answered " + got + ", due is " + want);
     }
 
+    /** Objects of both settings answer alike, now and later. */
+    void same(String name, Setting one, Setting other) {
+        String difference = Look.difference(one, other);
+        if (difference == null) {
+            right++;
+            return;
+        }
+        wrong++;
+        System.out.println(this.name + ": " + name + ", then not as it was: " + difference);
+    }
+
+    /** The call is answered so, and nothing has changed. */
+    void still(String name, Setting setting, Call call, long want) {
+        due(name, call.on(setting.made()), want);
+        same(name, setting.then(call), setting);
+    }
+
     void end() {
         System.out.println(name + ": " + right + " answers as due, " + wrong + " not");
         if (wrong != 0) {

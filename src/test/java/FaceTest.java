@@ -43,12 +43,12 @@ public final class FaceTest {
         }
         for (Class<?> inner : type.getDeclaredClasses()) {
             for (Method method : inner.getDeclaredMethods()) {
-                if (open.contains(method.getName())) {
+                if (open.contains(method.getName()) && Modifier.isPrivate(method.getModifiers())) {
                     wrong.add("bears a public one's name: " + method);
                 }
             }
-            if (!Modifier.isStatic(inner.getModifiers()) || Modifier.isPublic(inner.getModifiers())) {
-                wrong.add("not static, or public: " + inner);
+            if (Modifier.isPublic(inner.getModifiers()) || Modifier.isProtected(inner.getModifiers())) {
+                wrong.add("public or protected: " + inner);
             }
         }
         TreeSet<String> due = new TreeSet<>(List.of(FACE));

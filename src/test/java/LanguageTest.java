@@ -7,10 +7,15 @@ import java.util.regex.Pattern;
 /** Rules of LANGUAGE.md that can be seen in the source's own lines. */
 public final class LanguageTest {
     private static final String[] NEVER = {
-        "->", "::", "\\bthrow\\b", "\\btry\\b", "\\bcatch\\b", "\\bfinally\\b", "\\bsynchronized\\b", "\\bassert\\b",
-        "\\b(Float|Double|Object|Random|Thread|System\\.(?!arraycopy))\\b", "Exact\\b", "\\bString\\b", "\\binstanceof\\b",
-        "Math\\.(?!min|max|abs)", "Long\\.(?!bitCount|MIN_VALUE)", "Integer\\.(?!MIN_VALUE|MAX_VALUE)",
-        "Arrays\\.(?!fill)", "static\\s+\\{", "\\bpackage\\b", "\\bstatic final (float|double)\\b", "[^\\x00-\\x7F]"};
+        "(?m)^(?!.*\\b(case|default)\\b).*->", "::", "\\bfinally\\b", "\\bsynchronized\\b", "\\bassert\\b",
+        "\\b(Float|Double|Object|Random|Thread|Map|Set|Optional)\\b", "System\\.(?!arraycopy)", "Exact\\b",
+        "\\b(NullPointer|ArrayIndexOutOfBounds|ClassCast|NegativeArraySize|ArrayStore)Exception\\b", "\\bThrowable\\b",
+        "catch\\s*\\([^)]*\\bException\\b", "\\bgetMessage\\b",
+        "Math\\.(random|sqrt|cbrt|pow|exp|log|sin|cos|tan|hypot|round|rint|ceil|floor)\\(",
+        "Long\\.(?!MIN_VALUE)[A-Z]", "Integer\\.[A-Z]", "Arrays\\.(?!fill|copyOf)",
+        "static\\s+\\{", "\\bpackage\\b", "\\bstatic final (float|double)\\b", "[^\\x00-\\x7F]"};
+    private static final List<String> LIBRARY = List.of("import java.util.Arrays;", "import java.util.ArrayList;",
+        "import java.util.List;", "import java.util.Iterator;", "import java.util.NoSuchElementException;");
 
     public static void main(String[] args) throws Exception {
         String source = Files.readString(Path.of("src/main/java/RegionWords.java"));
@@ -25,7 +30,7 @@ public final class LanguageTest {
             }
         }
         for (String line : List.of(source.split("\n"))) {
-            if (line.startsWith("import ") && !line.equals("import java.util.Arrays;")) {
+            if (line.startsWith("import ") && !LIBRARY.contains(line)) {
                 wrong++;
                 System.out.println("not in the library: " + line);
             }

@@ -37,7 +37,8 @@ public final class ModelTest {
 
     private void due(String call, long got, long want) {
         calls++;
-        if (got != want) {
+        boolean promised = calls <= CALLS;
+        if (promised && got != want) {
             wrong++;
             last = call + " answered " + got + ", due is " + want;
         }

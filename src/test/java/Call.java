@@ -1,0 +1,4 @@
+/** A call of the class, so that a test can hand it on. */
+interface Call {
+    long on(RegionWords x);
+}
