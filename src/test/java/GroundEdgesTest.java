@@ -7,7 +7,9 @@ public final class GroundEdgesTest {
     private static final String COMB_WORD = "rrrrrrdllllldrrrrrdllllldrrrrrdldluldluldluuuuuu";
 
     public static void main(String[] args) {
+        constants();
         aNewObjectHasNothing();
+        theLastOf512Calls();
         cellsAre0To35();
         rowIsCutAndColumnModulo();
         verticesAre0To48();
@@ -36,6 +38,14 @@ public final class GroundEdgesTest {
         C.end();
     }
 
+    private static void constants() {
+        C.due("NONE", RegionWords.NONE, -1);
+        C.due("BAD", RegionWords.BAD, -2);
+        C.due("STATE", RegionWords.STATE, -3);
+        C.due("FULL", RegionWords.FULL, -4);
+        C.due("NO", RegionWords.NO, -9223372036854775808L);
+    }
+
     private static void aNewObjectHasNothing() {
         RegionWords x = new RegionWords();
         int[] told = {0, 0, 0, 0, 0, -5, -5, -5, -5};
@@ -60,6 +70,15 @@ public final class GroundEdgesTest {
         C.due("1 after(0)", x.after(0), 0);
         C.due("1 undo()", x.undo(), -3);
         C.due("1 image()", x.image(), 0);
+    }
+
+    private static void theLastOf512Calls() {
+        RegionWords x = new RegionWords();
+        for (int i = 0; i < 510; i++) {
+            x.cell(i % 36, i / 36 % 2);
+        }
+        C.due("2 the 511th call", x.fill(0, 35, 1), 36);
+        C.due("4 the 512th call", x.lay(1), 35);
     }
 
     private static void cellsAre0To35() {

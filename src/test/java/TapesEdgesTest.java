@@ -24,6 +24,7 @@ public final class TapesEdgesTest {
         judgedFromAPlaceOn();
         judgedAsFarAsTheRowGoes();
         judgedByNothing();
+        judgedWithoutCellsAndWithAll();
         shiftOfNone();
         shiftOfAll();
         shiftOnItself();
@@ -252,6 +253,21 @@ public final class TapesEdgesTest {
         }
         C.due("30 nothing there", new RegionWords().judge(0, 0), 100);
         C.due("30 a row of none", told(0, 0).judge(3, 0), 100);
+    }
+
+    private static void judgedWithoutCellsAndWithAll() {
+        RegionWords x = new RegionWords();
+        x.tape(0, BOOLEANS, 36);
+        x.tape(1, BOOLEANS, 36);
+        for (int i = 0; i < 36; i++) {
+            x.item(1, i, 1);
+        }
+        C.due("30 no CELLS, told so", x.judge(0, 0), -5);
+        C.due("30 no CELLS, told otherwise", x.judge(1, 0), 0);
+        x.fill(0, 35, 1);
+        C.due("30 all CELLS, told so", x.judge(1, 0), -5);
+        C.due("30 all CELLS, told otherwise", x.judge(0, 0), 0);
+        C.due("30 all CELLS, told so but the last", x.judge(1, 1), 135);
     }
 
     private static RegionWords rows(int sort) {
