@@ -14,6 +14,7 @@ public final class WalkEdgesTest {
         shortenedToNothing();
         shortenedByNothing();
         shortenedEitherFirst();
+        shortenedAtNeitherEnd();
         heightsOfFortySteps();
         windsRoundNothing();
         windsTenTimes();
@@ -130,6 +131,18 @@ public final class WalkEdgesTest {
         C.due("16 ruld", walk(24, "ruld").walked(4), 4);
         C.due("16 drluru", walk(24, "drluru").walked(4), 2);
         C.due("16 nothing ahead of it", walk(24, "rll").walked(4), 1);
+    }
+
+    /** The last STEP of a CLOSED walk and its first are not one behind the other. */
+    private static void shortenedAtNeitherEnd() {
+        String[] walks = {"rrdlul", "rdrull", "ddrulu", "drdluu", "lldrur", "uurdld"};
+        for (String letters : walks) {
+            RegionWords x = walk(24, letters);
+            C.due("16 CLOSED: " + letters, x.walked(3), 1);
+            C.due("16 SHORTENED: " + letters, x.walked(4), letters.length());
+        }
+        C.due("16 what goes, between others", walk(24, "rrldlurl").walked(4), 4);
+        C.due("16 all goes, from within", walk(24, "rrldlrul").walked(4), 0);
     }
 
     private static void heightsOfFortySteps() {
