@@ -76,7 +76,8 @@ public final class RunTest {
     }
 
     private static Process started(Path script) throws IOException {
-        return new ProcessBuilder(script.toString()).directory(script.getRoot().toFile()).redirectErrorStream(true).start();
+        return new ProcessBuilder("bash", script.toString())
+            .directory(script.getRoot().toFile()).redirectErrorStream(true).start();
     }
 
     private static void remove(Path folder) throws IOException {
